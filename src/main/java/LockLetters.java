@@ -1846,12 +1846,12 @@ public final class LockLetters {
             return NONE;
         }
 
+        /** The fewest open SLUICES without which there is no way; sets are tried from the least on. */
         int leastCut(int source, int target, int closed) {
             int best = (1 << canals.sluiceCount) - 1 & ~closed;
             for (int set = 0; set < 1 << canals.sluiceCount; set++) {
                 boolean fewer = Integer.bitCount(set) < Integer.bitCount(best);
-                boolean lesser = Integer.bitCount(set) == Integer.bitCount(best) && set < best;
-                if ((set & closed) == 0 && (fewer || lesser)) {
+                if (fewer && (set & closed) == 0) {
                     boolean cuts = (reached(source, closed | set) >> target & 1) == 0;
                     best = cuts ? set : best;
                 }

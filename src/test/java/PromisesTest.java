@@ -108,6 +108,8 @@ public final class PromisesTest {
         if (say(x, basins).basins() < 0 || say(x, sluices).sluices() < 0) {
             throw new IllegalArgumentException(basins + " " + sluices);
         }
+        // A row is there from the first, so that what a call tells must come in its stead.
+        x.spoils(1, 1, 1);
         return x;
     }
 
@@ -270,9 +272,9 @@ public final class PromisesTest {
         promise = 6;
         LockLetters x = town("53.;07.", "01g");
         String[] texts = {"z", "a+", "a<b<m", "(a", "((((((a", "1000", "a b", ")", "a)", "()", "(a)b", "a1", "1a", "12(", "a*/b", "+a",
-            "a<", "<a", "a<b=1", "(a<b)<m<k", "((((a)))))", "-", "a--", "a+1234", "(a<b<m)", "A", "a<b+m>1", "((((a+((", "a;"};
+            "a<", "<a", "a<b=1", "(a<b)<m<k", "((((a)))))", "-", "a--", "a+1234", "(a<b<m)", "A", "a<b+m>1", "((((a+((", "a;", "(1)2", "1+a2", "1-(1)2"};
         int[] places = {0, 2, 3, 2, 4, 3, 1, 0, 1, 1, 3, 1, 1, 2, 2, 0,
-            2, 0, 3, 7, 9, 1, 3, 5, 4, 0, 5, 6, 1};
+            2, 0, 3, 7, 9, 1, 3, 5, 4, 0, 5, 6, 1, 3, 3, 5};
         for (int i = 0; i < texts.length; i++) {
             due(texts[i], say(x, texts[i]).rule(), -1 - places[i]);
             due("the text is empty behind " + texts[i], x.count(12), 0);
@@ -299,10 +301,10 @@ public final class PromisesTest {
         LockLetters x = town("53.;07.;08.", "01g;02s");
         String[] texts = {"a", "b", "m", "k-3", "s", "t", "n", "7/2", "-7/2+5", "5-2-1", "2+3*1", "(1+1)*2", "8/2/2", "a/0+2", "a>4", "a<4", "a=5",
             "--3", "-(-3)", "3--1", "2*-1+5", "1+(a>b)", "(a>b)=(m>b)", "999", "-1", "999*999*999*999", "-999*999*999*999", "1+1=2", "3-1*2", "a-b>4", "b-a<0-4",
-            "((((4))))", "007-3", "12/5*2", "2*5/4", "---1+3", "-a+7", "a*(b=0)-m"};
+            "a<5", "a>5", "((((4))))", "007-3", "12/5*2", "2*5/4", "---1+3", "-a+7", "a*(b=0)-m"};
         int[] flows = {5, 0, 3, 4, 0, 0, 0, 3, 2, 2, 5, 4, 2, 2, 1, 0, 1,
             3, 3, 4, 3, 2, 1, 5, 0, 0, 5, 1, 1, 1, 1,
-            4, 4, 4, 2, 2, 2, 2};
+            0, 0, 4, 4, 4, 2, 2, 2, 2};
         for (int i = 0; i < texts.length; i++) {
             due(texts[i], withRule(x, texts[i]).sluice(0, 5), flows[i]);
         }
@@ -494,12 +496,16 @@ public final class PromisesTest {
         due("6 of 5", x.lets(0, 6), -2);
         due("5 of 5", x.lets(0, 5), 0);
         due("1 of 0", x.lets(0, 1), -2);
+        x.sheet(2, 3, 9, 0);
+        due("9 of 9", x.lets(2, 9), 0);
+        due("1 of 9", x.lets(2, 1), -2);
+        x.sheet(3, 0, 0, 0);
         int[][] none = {{3, 1}, {-1, 1}, {0, 0}, {0, 10}, {0, -1}, {6, 1}, {0, Integer.MIN_VALUE}};
         for (int[] w : none) {
             due("lets(" + w[0] + ", " + w[1] + ")", x.lets(w[0], w[1]), -1);
         }
         dueLevels("let out", x, 0, 0, 0);
-        due("what can be undone", x.count(10), 2);
+        due("what can be undone", x.count(10), 3);
     }
 
     private static void boats() {
@@ -715,7 +721,11 @@ public final class PromisesTest {
         dueRow("by the hour", x, 0, 1);
         x = slow();
         due("behind none", x.round(), -2);
-        dueRow("nothing was told", x);
+        dueRow("nothing was told", x, 1, 10);
+        x = withRule(town("90.;90.;60.;00!", "01w;12w;23w"), "n=2");
+        due("99", x.round(), 99);
+        dueRow("99", x, 95, 1);
+        due("behind 100", withRule(x, "n=3").round(), -2);
     }
 
     private static LockLetters slow() {
@@ -738,7 +748,12 @@ public final class PromisesTest {
         dueRow("at the ninth time", x, 9);
         x = slow();
         due("behind none", x.still(), -2);
-        dueRow("nothing was told", x);
+        dueRow("nothing was told", x, 1, 10);
+        x = withRule(town("90.;90.;60.;00!", "01w;12w;23w"), "n=3");
+        due("96", x.still(), 96);
+        dueRow("96", x, 0);
+        x = withRule(town("90.;90.;70.;00!", "01w;12w;23w"), "n=0");
+        due("97", x.still(), -2);
         x = withRule(town("90.;90.;30.;09!", "23w"), "n=0");
         due("the water that is left", x.still(), 9);
         dueRow("the water that is left", x, 18);
@@ -752,6 +767,8 @@ public final class PromisesTest {
         x = town("90.;90.;00.;00.", "02g;13g");
         due("of equal ones the first", x.busiest(1), 0);
         dueRow("of equal ones the first", x, 2, 4);
+        due("asked again", x.busiest(1), 0);
+        dueRow("asked again", x, 2, 4);
         x = town("20.;90.;00.;00.", "02g;13g");
         due("the second", x.busiest(99), 1);
         dueRow("the second", x, 5, 6);
@@ -926,6 +943,8 @@ public final class PromisesTest {
         dueRow("nothing was told", x, 3);
         due("a mark of 0", x.drought(0, 0, 0), 0);
         dueRow("a mark of 0", x, 10);
+        due("in 40", x.drought(1, 2, 40), 7);
+        dueRow("in 40", x, 3);
         due("itself", x.drought(1, 1, 0), 5);
         dueRow("itself", x, 5);
         int[][] none = {{3, 0, 0}, {0, 3, 0}, {-1, 0, 0}, {0, -1, 0}, {0, 1, 41}, {0, 1, -1}};
@@ -941,7 +960,8 @@ public final class PromisesTest {
         for (int[] w : none) {
             due("saw(" + w[0] + ", " + w[1] + ", " + w[2] + ")", x.saw(w[0], w[1], w[2]), -1);
         }
-        for (int i = 1; i <= 10; i++) {
+        due("how many such", x.saw(2, 0, 0), 1);
+        for (int i = 2; i <= 10; i++) {
             due("how many such", x.saw(0, 20, 9), i);
         }
         due("10", x.saw(0, 20, 9), -1);
@@ -1073,6 +1093,9 @@ public final class PromisesTest {
         dueRow("nothing was told", x, 2, 3, 4);
         due("like ones", x.way(5, 5), 0);
         dueRow("like ones", x);
+        LockLetters y = losing();
+        due("the first alone", y.way(0, 1), 1);
+        dueRow("the first alone", y, 0);
         due("none such", x.way(0, 6), -1);
         due("none such", x.way(6, 0), -1);
         due("none such", x.way(-1, -1), -1);
@@ -1258,6 +1281,8 @@ public final class PromisesTest {
             int start = seed * 123456789;
             LockLetters x = town("90.;05!;03.", "01g;12w;20s");
             LockLetters y = town("90.;05!;03.", "01g;12w;20s");
+            x.hours(3);
+            y.hours(3);
             int n = 20 + seed;
             int r = start;
             long went = 0;
@@ -1284,7 +1309,7 @@ public final class PromisesTest {
             for (int what = 2; what <= 8; what++) {
                 due("count(" + what + ")", x.count(what), y.count(what));
             }
-            due("years can't be undone", x.count(10), 0);
+            due("years can't be undone", x.count(10), 1);
         }
         LockLetters x = new LockLetters();
         // Seed 0 draws 0: 12345 by 65536.
@@ -1371,6 +1396,7 @@ public final class PromisesTest {
         for (int what = 0; what < want.length; what++) {
             due("count(" + what + ")", x.count(what), want[what]);
         }
+        due("first and third at their marks", losing().count(8), 1);
         due("13", x.count(13), -1);
         due("-1", x.count(-1), -1);
         due("MIN", x.count(Integer.MIN_VALUE), -1);
