@@ -311,11 +311,7 @@ public final class LockLetters {
         if (!canals.hasBasin(basin) || n < 1 || n > FULL) {
             return NONE;
         }
-        if (now.level[basin] + n > FULL) {
-            return CANT;
-        }
-        now.level[basin] += n;
-        return now.level[basin];
+        return canals.fill(now, basin, n) ? now.level[basin] : CANT;
     }
 
     private int letOut(int basin, int n) {
@@ -1015,27 +1011,27 @@ public final class LockLetters {
         if (n < 1 || n > 60) {
             return NONE;
         }
-        canals.begin();
+        startTrial();
         int r = seed;
         for (int i = 0; i < n; i++) {
             r = drawn(r);
             int what = picked(r, 4);
             if (what < 2) {
-                canals.pass(now, rule);
+                canals.pass(trial, rule);
             } else if (what == 2 && canals.basinCount > 0) {
                 r = drawn(r);
                 int basin = picked(r, canals.basinCount);
                 r = drawn(r);
-                pour(basin, picked(r, 3) + 1);
+                canals.fill(trial, basin, picked(r, 3) + 1);
             } else if (what == 3 && canals.sluiceCount > 0) {
                 r = drawn(r);
-                sendBoat(picked(r, canals.sluiceCount));
+                canals.carry(trial, picked(r, canals.sluiceCount));
             }
         }
         told.begin();
         told.add(canals.gone);
         told.add(canals.leaked);
-        return together(now);
+        return together(trial);
     }
 
     private static int drawn(int r) {
@@ -1351,6 +1347,15 @@ public final class LockLetters {
             things[5] = kind[sluice];
             things[6] = state.hour & 3;
             return most <= 0 ? 0 : Math.max(0, Math.min(most, rule.value(things)));
+        }
+
+        /** So much is poured into a BASIN: whether it could be. */
+        boolean fill(State state, int basin, int n) {
+            if (state.level[basin] + n > FULL) {
+                return false;
+            }
+            state.level[basin] += n;
+            return true;
         }
 
         /** A boat takes one part through a SLUICE: whether it could. */

@@ -1529,22 +1529,25 @@ public final class ModelTest {
             drawn = seed;
             long went = 0;
             long lost = 0;
+            Town asked = now.copy();
             for (int i = 0; i < n; i++) {
                 int what = draw(4);
                 if (what <= 1) {
-                    Town t = now.after(1);
-                    went += t.gone();
-                    lost += t.leaked;
-                    now.back(t);
-                } else if (what == 2 && !now.levels.isEmpty()) {
-                    int b = draw(now.levels.size());
-                    pours(b, draw(3) + 1);
-                } else if (what == 3 && !now.from.isEmpty()) {
-                    boats(draw(now.from.size()));
+                    asked = asked.after(1);
+                    went += asked.gone();
+                    lost += asked.leaked;
+                } else if (what == 2 && !asked.levels.isEmpty()) {
+                    int b = draw(asked.levels.size());
+                    int filled = asked.levels.get(b) + draw(3) + 1;
+                    if (filled <= 9) {
+                        asked.levels.set(b, filled);
+                    }
+                } else if (what == 3 && !asked.from.isEmpty()) {
+                    asked.boat(draw(asked.from.size()));
                 }
             }
             tell(went, lost);
-            return now.together();
+            return asked.together();
         }
     }
 }

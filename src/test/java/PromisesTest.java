@@ -1304,28 +1304,55 @@ public final class PromisesTest {
                     y.boats((r >>> 16) % 3);
                 }
             }
+            x.keep(0);
+            say(x, "abc");
+            String was = allButTheRow(x);
             due("levels together", x.years(start, n), y.count(4));
             dueRow("years", x, went, lost);
-            for (int what = 2; what <= 8; what++) {
-                due("count(" + what + ")", x.count(what), y.count(what));
-            }
-            due("years can't be undone", x.count(10), 1);
+            due("years() is asked", allButTheRow(x).equals(was), true);
+            due("asked again", x.years(start, n), y.count(4));
+            dueRow("asked again", x, went, lost);
+            due("what can be undone", x.undo(), 0);
+            due("as ahead of the hours", x.count(2), 0);
+            due("what is kept", x.again(0), true);
+            due("as it was kept", x.count(2), 3);
         }
         LockLetters x = new LockLetters();
         // Seed 0 draws 0: 12345 by 65536.
         due("one hour", x.years(0, 1), 0);
-        due("one hour", x.count(2), 1);
-        int r = 77;
-        int hours = 0;
-        for (int i = 0; i < 60; i++) {
-            r = r * 1103515245 + 12345;
-            hours += (r >>> 16) % 4 < 2 ? 1 : 0;
-        }
-        x.years(77, 60);
-        due("without basins, sluices no second draw", x.count(2), 1 + hours);
+        due("one hour", x.count(2), 0);
+        dueRow("no basins", x, 0, 0);
+        yearsWithoutSluices();
         due("0", x.years(1, 0), -1);
         due("61", x.years(1, 61), -1);
         due("-1", x.years(1, -1), -1);
+    }
+
+    /** Without SLUICES there is no second DRAW behind a 3; a second one would change what is poured later. */
+    private static void yearsWithoutSluices() {
+        for (int seed = 0; seed < 20; seed++) {
+            LockLetters x = town("00.;00!", "");
+            int[] level = new int[2];
+            int lost = 0;
+            int r = seed;
+            for (int i = 0; i < 12; i++) {
+                r = r * 1103515245 + 12345;
+                int what = (r >>> 16) % 4;
+                if (what < 2 && level[1] > 0) {
+                    level[1]--;
+                    lost++;
+                } else if (what == 2) {
+                    r = r * 1103515245 + 12345;
+                    int basin = (r >>> 16) % 2;
+                    r = r * 1103515245 + 12345;
+                    int more = (r >>> 16) % 3 + 1;
+                    level[basin] += level[basin] + more > 9 ? 0 : more;
+                }
+            }
+            due("without sluices", x.years(seed, 12), level[0] + level[1]);
+            dueRow("without sluices", x, 0, lost);
+            due("nothing was poured", x.count(4), 0);
+        }
     }
 
     private static void keep() {
@@ -1476,12 +1503,17 @@ public final class PromisesTest {
     }
 
     private static String all(LockLetters x) {
-        StringBuilder s = new StringBuilder();
-        for (int what = 0; what <= 12; what++) {
-            s.append(x.count(what)).append(' ');
-        }
+        StringBuilder s = new StringBuilder(allButTheRow(x)).append(x.count(11)).append(": ");
         for (int i = 0; i < x.count(11); i++) {
             s.append(x.row(i)).append(' ');
+        }
+        return s.toString();
+    }
+
+    private static String allButTheRow(LockLetters x) {
+        StringBuilder s = new StringBuilder();
+        for (int what = 0; what <= 12; what++) {
+            s.append(what == 11 ? 0 : x.count(what)).append(' ');
         }
         for (int i = 0; i < x.count(0); i++) {
             s.append(x.basin(i, 0)).append(x.basin(i, 1)).append(' ');
