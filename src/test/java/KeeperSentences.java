@@ -497,8 +497,12 @@ final class KeeperSentences extends Sentences {
             due("STUCK", x.count(7), 2);
             due("HOUR", x.count(2), 1);
             due("LOST", x.count(3), 1);
+            x.saw(0, 0, 1);
+            withRule(x, "2");
             due("left", x.undo(), 1);
             due("left", x.undo(), 0);
+            due("what was seen is not undone", x.count(9), 1);
+            due("THE RULE is not undone", x.sluice(0, 5), 2);
         });
         holds("Refused: none.", () -> {
             LockLetters x = town("43.;35!", "01s;01g");

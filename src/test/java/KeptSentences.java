@@ -277,9 +277,14 @@ final class KeptSentences extends Sentences {
             x.hours(3);
             due("1 again", x.again(1), true);
             due("as it was", all(x), was);
+            x.saw(0, 0, 1);
+            withRule(x, "0");
             due("0", x.again(0), true);
             due("HOUR", x.count(2), 5);
             due("STUCK", x.count(7), 2);
+            due("what was seen is not brought back", x.count(9), 1);
+            due("there is water to flow", x.basin(0, 0) > 0 && x.basin(1, 0) < 9, true);
+            due("THE RULE is not brought back", x.sluice(0, 5), 0);
             LockLetters y = new LockLetters();
             y.keep(0);
             y.hours(3);

@@ -830,9 +830,9 @@ public final class PromisesTest {
         dueRow("14 in 2", x, 1, 2, 2);
         due("6 in 2", x.quarters(6, 2), 0);
         dueRow("nothing without", x);
-        LockLetters y = town("43.;25!;18.;66.", "01g;12w;23s;30g;02s");
         for (int n = 0; n <= 40; n += 8) {
             for (int t = 0; t <= 15; t++) {
+                LockLetters y = town("43.;25!;18.;66.", "01g;12w;23s;30g;02s");
                 int found = 0;
                 int least = -1;
                 for (int three = 0; three < 64; three++) {
@@ -866,8 +866,8 @@ public final class PromisesTest {
         dueRow("0", x, 2);
         due("6", x.learns(0, 1, 2, 6), -2);
         dueRow("nothing was told", x, 2);
-        LockLetters y = town("43.;25!;18.;66.", "01g;12w;23s;30g;02s");
         for (int t = 0; t <= 15; t++) {
+            LockLetters y = town("43.;25!;18.;66.", "01g;12w;23s;30g;02s");
             int first = -2;
             int times = 0;
             for (int n = 40; n >= 0; n--) {
@@ -1036,9 +1036,9 @@ public final class PromisesTest {
         due("in 0", x.needs(1, 0), 0);
         dueRow("in 0", x, 0);
         due("the third", x.needs(2, 40), 0);
-        LockLetters y = town("93.;25!;18.;66.", "01g;12w;23s;30g;02s");
-        y.sticks(1);
         for (int c = 0; c < 4; c++) {
+            LockLetters y = town("93.;25!;18.;66.", "01g;12w;23s;30g;02s");
+            y.sticks(1);
             for (int n = 0; n <= 40; n += 5) {
                 int plain = y.later(c, n);
                 int bits = 0;

@@ -12,7 +12,7 @@ public final class RoomTest {
         long start = threads.getThreadAllocatedBytes(id);
         LockLetters x = new LockLetters();
         long made = threads.getThreadAllocatedBytes(id);
-        use(x, 12);
+        use(x, 8);
         long used = threads.getThreadAllocatedBytes(id);
         System.out.println("room: " + (made - start) + " bytes an object, " + (used - made) + " bytes of its calls");
         if (made - start > MOST_BYTES_OF_AN_OBJECT || used - made > MOST_BYTES_OF_CALLS) {

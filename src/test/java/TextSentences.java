@@ -267,8 +267,8 @@ final class TextSentences extends Sentences {
                 due(texts[i], say(x, texts[i]).rule(), -1 - places[i]);
                 due("THE RULE is as it was", x.sluice(0, 5), 7);
             }
-            due("a - that waits", say(x, "(-").rule(), -3);
-            due("is not waited for by the next one", say(x, "5").rule(), 0);
+            due("a - that waits for a thing", say(x, "-)").rule(), -2);
+            due("is not ahead of the next rule's", say(x, "5").rule(), 0);
             due("FLOW", x.sluice(0, 5), 5);
             due("a < that was", say(x, "a<(b<").rule(), -6);
             due("is not behind the next one", say(x, "(2<3)+(1<2)<3").rule(), 0);
