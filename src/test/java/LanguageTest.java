@@ -10,7 +10,10 @@ import java.util.ArrayList;
 import java.util.Arrays;
 import java.util.HashSet;
 import java.util.List;
+import java.util.Map;
+import java.util.NoSuchElementException;
 import java.util.Set;
+import java.util.TreeMap;
 import java.util.TreeSet;
 import java.util.regex.Matcher;
 import java.util.regex.Pattern;
@@ -27,9 +30,11 @@ public final class LanguageTest {
     public static void main(String[] args) throws IOException {
         String source = Files.readString(SOURCE, StandardCharsets.ISO_8859_1);
         face();
+        sections(source);
         insides(LockLetters.class, source);
         ruledOut(source);
         methods(source);
+        depth(source);
         System.out.println("language: " + wrong + " wrong");
         if (wrong != 0) {
             System.exit(1);
@@ -46,14 +51,15 @@ public final class LanguageTest {
     private static void face() throws IOException {
         Set<String> told = new TreeSet<>();
         String document = Files.readString(DOCUMENT, StandardCharsets.UTF_8);
-        Matcher m = Pattern.compile("(?m)^    public (int|long|boolean) (\\w+)\\(([^)]*)\\)").matcher(document);
+        Matcher m = Pattern.compile("(?m)^    public (int|long|boolean) (\\w+)\\(([^)]*)\\)( throws NoSuchElementException)?;").matcher(document);
         while (m.find()) {
-            told.add(m.group(1) + " " + m.group(2) + " " + (m.group(3).isEmpty() ? 0 : m.group(3).split(",").length));
+            told.add(m.group(1) + " " + m.group(2) + " " + (m.group(3).isEmpty() ? 0 : m.group(3).split(",").length) + (m.group(4) == null ? "" : " throws"));
         }
         Set<String> made = new TreeSet<>();
         for (Method method : LockLetters.class.getDeclaredMethods()) {
             if (Modifier.isPublic(method.getModifiers())) {
-                made.add(method.getReturnType() + " " + method.getName() + " " + method.getParameterCount());
+                String thrown = Arrays.equals(method.getExceptionTypes(), new Class<?>[] {NoSuchElementException.class}) ? " throws" : "";
+                made.add(method.getReturnType() + " " + method.getName() + " " + method.getParameterCount() + thrown);
             } else {
                 due(Modifier.isPrivate(method.getModifiers()), "not private: " + method);
             }
@@ -67,6 +73,23 @@ public final class LanguageTest {
             boolean constant = field.getName().equals("NONE");
             due(constant ? Modifier.isPublic(field.getModifiers()) : Modifier.isPrivate(field.getModifiers()), "field: " + field);
         }
+    }
+
+    /** What the interface says ahead of calls stands ahead of the first of them, and they follow one another in this order. */
+    private static void sections(String source) throws IOException {
+        Matcher m = Pattern.compile("(?m)^Ahead of the calls (.*) the interface says: (---- .*)\\.$").matcher(Files.readString(DOCUMENT, StandardCharsets.UTF_8));
+        int at = 0;
+        int found = 0;
+        while (m.find()) {
+            found++;
+            at = source.indexOf("// " + m.group(2) + "\n", Math.max(0, at));
+            due(at >= 0, "does not say ahead of calls: " + m.group(2));
+            for (String call : m.group(1).replace("`", "").split(", ")) {
+                at = at < 0 ? at : source.indexOf(" " + call + "(", at);
+                due(at >= 0, "not behind " + m.group(2) + ": " + call);
+            }
+        }
+        due(found == 11, "what the interface says ahead of calls: " + found);
     }
 
     private static void insides(Class<?> outer, String source) {
@@ -128,5 +151,65 @@ public final class LanguageTest {
                 name = null;
             }
         }
+    }
+
+    /** Calls go at most eight deep and none comes back to itself; a call of another object may be of any class inside with such a method. */
+    private static void depth(String source) {
+        Map<String, Set<String>> calls = new TreeMap<>();
+        Map<String, String> bodies = bodies(source);
+        for (Map.Entry<String, String> body : bodies.entrySet()) {
+            String own = body.getKey().replaceFirst("\\..*", "");
+            Set<String> called = new TreeSet<>();
+            Matcher m = Pattern.compile("(?:\\b(\\w+)\\.)?\\b(\\w+)\\(").matcher(body.getValue());
+            while (m.find()) {
+                String of = m.group(1) == null ? own : m.group(1);
+                for (String method : bodies.keySet()) {
+                    boolean named = method.endsWith("." + m.group(2));
+                    boolean ofAnother = m.group(1) != null && Character.isLowerCase(of.charAt(0)) && !method.startsWith("LockLetters.");
+                    if (named && (ofAnother || method.startsWith(of + "."))) {
+                        called.add(method);
+                    }
+                }
+            }
+            calls.put(body.getKey(), called);
+        }
+        due(calls.size() > 100, "methods that were found: " + calls.size());
+        int deepest = 0;
+        for (String method : calls.keySet()) {
+            deepest = Math.max(deepest, deepest(method, calls, 0));
+        }
+        due(deepest >= 7 && deepest <= 8, "calls go " + deepest + " deep");
+    }
+
+    private static int deepest(String method, Map<String, Set<String>> calls, int open) {
+        int most = 0;
+        for (String called : open > 20 ? Set.<String>of() : calls.get(method)) {
+            most = Math.max(most, deepest(called, calls, open + 1));
+        }
+        return most + 1;
+    }
+
+    /** Class and method, and what stands between its brackets. */
+    private static Map<String, String> bodies(String source) {
+        Map<String, String> bodies = new TreeMap<>();
+        String outer = "LockLetters";
+        String method = null;
+        StringBuilder body = new StringBuilder();
+        for (String line : source.split("\n")) {
+            Matcher inside = Pattern.compile("^    private static final class (\\w+) \\{$").matcher(line);
+            Matcher head = Pattern.compile("^ {4,8}(?:(?:public|private|static|final) )*[\\w\\[\\]]+ (\\w+)\\(.*\\).* \\{$").matcher(line);
+            if (inside.matches()) {
+                outer = inside.group(1);
+            } else if (method == null && head.matches()) {
+                method = outer + "." + head.group(1);
+                body.setLength(0);
+            } else if (method != null && line.matches(outer.equals("LockLetters") ? " {4}\\}" : " {8}\\}")) {
+                bodies.put(method, body.toString());
+                method = null;
+            } else {
+                body.append(line).append('\n');
+            }
+        }
+        return bodies;
     }
 }
